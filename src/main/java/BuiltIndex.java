@@ -196,12 +196,24 @@ public final class BuiltIndex {
         if (n < 1 || n > MOST_STEPS) {
             return OUTSIDE;
         }
-        for (int i = 0; i < n && isBuilding(); i++) {
-            if (!takeStep()) {
-                return LOST;
+        boolean hasPower = true;
+        for (int i = 0; i < n && hasPower && isBuilding(); i++) {
+            switch (state) {
+                case SCAN:
+                    hasPower = scanPage();
+                    break;
+                case MERGE:
+                    hasPower = mergeRuns();
+                    break;
+                case LOAD:
+                    hasPower = loadNode();
+                    break;
+                default:
+                    hasPower = catchUp();
+                    break;
             }
         }
-        return state;
+        return hasPower ? state : LOST;
     }
 
     public int info(int what) {
@@ -409,19 +421,7 @@ public final class BuiltIndex {
         tree.clear();
     }
 
-    /** False if power went. */
-    private boolean takeStep() {
-        switch (state) {
-            case SCAN:
-                return scanPage();
-            case MERGE:
-                return mergeRuns();
-            case LOAD:
-                return loadNode();
-            default:
-                return catchUp();
-        }
-    }
+    // each of the four kinds of step answers false if power went
 
     private boolean scanPage() {
         int first = nextPage * PLACES_A_PAGE;
@@ -476,19 +476,16 @@ public final class BuiltIndex {
             return true;
         }
         int twin = unique ? tree.firstTwin() : NONE;
-        if (twin == NONE) {
-            return publish();
+        if (twin != NONE) {
+            firstTwin = placeOf(tree.entryAt(twin));
+            secondTwin = placeOf(tree.entryAt(twin + 1));
+            stopBuilding(TWO_WITH_ONE_KEY);
+            return true;
         }
-        firstTwin = placeOf(tree.entryAt(twin));
-        secondTwin = placeOf(tree.entryAt(twin + 1));
-        stopBuilding(TWO_WITH_ONE_KEY);
-        return true;
-    }
-
-    private boolean publish() {
         if (!makeCheckpoint(tree.nodeCount())) {
             return false;
         }
+        // not before the checkpoint is made: a loss in it must leave nothing published
         state = PUBLISHED;
         forgetBuilding();
         return true;
@@ -958,21 +955,15 @@ public final class BuiltIndex {
             way[0] = root;
             wayAt[0] = 0;
             while (overNodes[node] && wayEnd < MOST_NODES - 1) {
-                int at = whichKid(node, entry);
+                int at = size[node] - 1;
+                while (at > 0 && leastOf(kidOf(node, at)) > entry) {
+                    at--;
+                }
                 node = kidOf(node, at);
                 wayEnd++;
                 way[wayEnd] = node;
                 wayAt[wayEnd] = at;
             }
-        }
-
-        private int whichKid(int node, long entry) {
-            for (int at = size[node] - 1; at > 0; at--) {
-                if (leastOf(kidOf(node, at)) <= entry) {
-                    return at;
-                }
-            }
-            return 0;
         }
 
         /** False, and nothing is done, if there would be too many nodes. */
@@ -1012,7 +1003,7 @@ public final class BuiltIndex {
                 return;
             }
             for (int i = STAY_IN_NODE; i < size[left]; i++) {
-                append(right, held[left][i]);
+                putIn(right, i - STAY_IN_NODE, held[left][i]);
             }
             size[left] = STAY_IN_NODE;
             touched[left] = true;
@@ -1028,8 +1019,8 @@ public final class BuiltIndex {
             if (top == NONE) {
                 return;
             }
-            append(top, left);
-            append(top, right);
+            putIn(top, 0, left);
+            putIn(top, 1, right);
             root = top;
         }
 
