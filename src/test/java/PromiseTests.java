@@ -34,8 +34,6 @@ public final class PromiseTests {
         info();
         logBeside();
         nodeLimit();
-        nodeLimitAtRoot(60);
-        nodeLimitAtRoot(61);
         entry();
         leaf();
         divisions();
@@ -658,49 +656,6 @@ public final class PromiseTests {
         due("lost", z.add(0, 0), LOST);
         due("start", z.start(), 201);
         dueInfo(z, 0, 0, 0, 0, 0, 0, 0, 0, 0, 0, NONE, NONE);
-    }
-
-    /** A division up to the root, with so many nodes before: three divided ones and a root are new. */
-    private static void nodeLimitAtRoot(int before) {
-        part = "2 nodes at the root";
-        BuiltIndex x = published(216, 100, false);
-        dueInfo(x, 5, 0, 0, 0, 0, 0, 43, 3, 216);
-        int moved = 0;
-        // by three new leaves the nodes over leaves 0 and 6 are divided: the root is over eight
-        moved = divideLeaf(x, 0, 43 + 4, moved);
-        moved = divideLeaf(x, 6, 47 + 4, moved);
-        // by four more the first node over leaves has eight, too
-        moved = divideLeaf(x, 0, 51 + 4, moved);
-        moved = divideLeaf(x, 6, 55 + 4, moved);
-        moved = divideLeaf(x, 12, before, moved);
-        due("levels", x.info(7), 3);
-        while (x.leaf(0) < 8 && moved < 90) {
-            moved = moveToLeaf(x, 0, moved);
-        }
-        due("nodes", x.info(6), before);
-        moveToLeaf(x, 0, moved);
-        if (before + 4 <= 64) {
-            dueInfo(x, 5, 0, 0, 0, 0, 0, before + 4, 4, 216, 0);
-        } else {
-            dueInfo(x, 6, 0, 0, 0, 0, 0, 0, 0, 0, 2);
-        }
-        due("audit", x.audit(), 0);
-    }
-
-    private static int divideLeaf(BuiltIndex x, int leaf, int till, int moved) {
-        int n = moved;
-        while (x.info(6) < till && n < 90) {
-            n = moveToLeaf(x, leaf, n);
-        }
-        due("nodes", x.info(6), till);
-        return n;
-    }
-
-    /** Moves a row of a leaf that is not divided here, not its first one, behind the first of another. */
-    private static int moveToLeaf(BuiltIndex x, int leaf, int moved) {
-        int from = 6 * (13 + moved / 4) + 1 + moved % 4;
-        due("change", x.change(from, 600 * leaf + 99 - moved, 0), 1);
-        return moved + 1;
     }
 
     // ---- promises 12 and 13
