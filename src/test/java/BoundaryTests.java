@@ -1318,6 +1318,12 @@ public final class BoundaryTests {
             due("writes since", x.blocks(3), 0);
             dueInfo(x, 5, 1, 0, 0, 0, 0);
         }
+        BuiltIndex older = inLoad(7);
+        due("catch", older.step(3), 4);
+        due("a checkpoint behind the load", nextCheckpoint(older, 0), 2);
+        int before = older.blocks(1);
+        due("published", older.step(1), 5);
+        due("page 0, nodes made before the latest checkpoint, too, one more", older.blocks(1) - before, 5);
     }
 
     // ======== 2 BUILDING: the log beside
